@@ -1,0 +1,33 @@
+/** Counts and prints the answers that are not the ones that are due. */
+final class Due {
+    private int asked = 0;
+    private int wrong = 0;
+
+    void is(String call, long got, long due) {
+        asked++;
+        if (got != due) {
+            wrong++;
+            if (wrong <= 50) {
+                System.out.println(call + " answered " + got + ", due is " + due);
+            }
+        }
+    }
+
+    void holds(String what, boolean so) {
+        is(what, so ? 1 : 0, 1);
+    }
+
+    /** Says the signs of a text, one by one; none of them is to be refused. */
+    void says(HassockSee see, String text) {
+        for (int i = 0; i < text.length(); i++) {
+            holds("say('" + text.charAt(i) + "') of " + text, see.say(text.charAt(i)) > 0);
+        }
+    }
+
+    void end(String test) {
+        System.out.println(test + ": " + asked + " answers, " + wrong + " wrong");
+        if (wrong != 0 || asked == 0) {
+            System.exit(1);
+        }
+    }
+}
