@@ -217,10 +217,7 @@ public final class HassockSee {
 
     public int fits(int i) {
         wear.fit(sights);
-        if (i == -1) {
-            return wear.count;
-        }
-        return isWithin(i, 0, wear.count - 1) ? wear.fitAt(i) : NONE;
+        return i == -1 ? wear.count : wear.fitAt(i);
     }
 
     public int ask(int what) {
@@ -828,19 +825,26 @@ public final class HassockSee {
         private int mostUnions(Diocese diocese, int all, int wanted) {
             stitchesOf[0] = 0;
             parishesOf[0] = 0;
-            for (int next = 0; next < HASSOCKS; next++) {
-                for (int others = 0; isIn(all, next) && others < 1 << next; others++) {
-                    if ((others & ~all) == 0) {
-                        int set = others | 1 << next;
-                        stitchesOf[set] = stitchesOf[others] | (diocese.stitches[next] & wanted);
-                        parishesOf[set] = stitchesOf[set] == wanted ? mostWith(1 << next, others, wanted) : 0;
-                    }
+            for (int h = 0; h < HASSOCKS; h++) {
+                if (isIn(all, h)) {
+                    reckonWith(1 << h, diocese.stitches[h] & wanted, all, wanted);
                 }
             }
             return parishesOf[all];
         }
 
-        /** The next is left over, or in a union with some of the others. */
+        /** All sets in which the next is the highest: those without it have been reckoned before. */
+        private void reckonWith(int next, int some, int all, int wanted) {
+            for (int others = 0; others < next; others++) {
+                if ((others & ~all) == 0) {
+                    int set = others | next;
+                    stitchesOf[set] = stitchesOf[others] | some;
+                    parishesOf[set] = stitchesOf[set] == wanted ? mostWith(next, others, wanted) : 0;
+                }
+            }
+        }
+
+        /** The next is left over, or in a union with some of the others: by itself it has not all. */
         private int mostWith(int next, int others, int wanted) {
             int most = parishesOf[others];
             int joined = others;
