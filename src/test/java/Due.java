@@ -1,14 +1,22 @@
 /** Counts and prints the answers that are not the ones that are due. */
 final class Due {
+    private String sentence = "";
+    private int sentences = 0;
     private int asked = 0;
     private int wrong = 0;
+
+    /** What follows tests these words of the document. */
+    void of(String words) {
+        sentence = "\"" + words + "\": ";
+        sentences++;
+    }
 
     void is(String call, long got, long due) {
         asked++;
         if (got != due) {
             wrong++;
             if (wrong <= 50) {
-                System.out.println(call + " answered " + got + ", due is " + due);
+                System.out.println(sentence + call + " answered " + got + ", due is " + due);
             }
         }
     }
@@ -25,7 +33,8 @@ final class Due {
     }
 
     void end(String test) {
-        System.out.println(test + ": " + asked + " answers, " + wrong + " wrong");
+        String of = sentences == 0 ? "" : " to " + sentences + " sentences";
+        System.out.println(test + ": " + asked + " answers" + of + ", " + wrong + " wrong");
         if (wrong != 0 || asked == 0) {
             System.exit(1);
         }

@@ -25,6 +25,7 @@ public final class ModelTest {
         allMoths(due);
         allPatterns(due);
         allBooks(due);
+        allSights(due);
         for (int seed = 1; seed <= RUNS; seed++) {
             new ModelTest(seed, due).goOn();
         }
@@ -64,6 +65,21 @@ public final class ModelTest {
             for (int what = 0; what < 3; what++) {
                 due.is("book(" + seed + ", " + m + ", " + what + ")", see.book(seed, m, what),
                         model.book(seed, m, what));
+            }
+        }
+    }
+
+    private static void allSights(Due due) {
+        for (int sundays = 0; sundays <= 60; sundays++) {
+            for (int v = 0; v <= 99; v++) {
+                HassockSee see = new HassockSee();
+                PlainModel model = new PlainModel();
+                String sight = "(" + sundays + ", " + v + "): ";
+                due.is("felt" + sight, see.felt(sundays, v), model.felt(sundays, v));
+                due.is(sight + "fits(-1)", see.fits(-1), model.fits(-1));
+                due.is(sight + "fits(0)", see.fits(0), model.fits(0));
+                due.is(sight + "ask(0)", see.ask(0), model.ask(0));
+                due.is(sight + "ask(1)", see.ask(1), model.ask(1));
             }
         }
     }

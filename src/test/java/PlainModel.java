@@ -505,7 +505,8 @@ final class PlainModel {
     }
 
     long moths(int n, int m, int t, int what, int part) {
-        if (!in(n, 0, 16) || !in(m, 0, 16) || (long) n * m > 16 || !in(t, 0, 10) || !in(what, 0, 1) || !in(part, 0, 1)) {
+        if (!in(n, 0, 16) || !in(m, 0, 16) || (long) n * m > 16 || !in(t, 0, 10) || !in(what, 0, 1)
+                || !in(part, 0, 1)) {
             return GONE_OUTSIDE;
         }
         // By how many are left: in how many of ten to the n times years.

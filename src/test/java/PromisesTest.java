@@ -1,6 +1,7 @@
 /** Promise by promise: ordinary inputs, the edges that the document names, and wrong inputs. */
 public final class PromisesTest {
-    private static final int UNKNOWN = -1, OUTSIDE = -2, STATE = -3, FULL = -4, NO = -5, NONE = -6;
+    private static final int UNKNOWN = Given.UNKNOWN, OUTSIDE = Given.OUTSIDE, STATE = Given.STATE, FULL = Given.FULL,
+            NO = Given.NO, NONE = Given.NONE;
     private static final int[] WILD = {Integer.MIN_VALUE, -7, -2, 1000000, Integer.MAX_VALUE};
 
     private static final Due due = new Due();
@@ -40,23 +41,6 @@ public final class PromisesTest {
         promise25And26Images();
         promise27Told();
         due.end("PromisesTest");
-    }
-
-    private static HassockSee withText(String text) {
-        HassockSee see = new HassockSee();
-        due.says(see, text);
-        return see;
-    }
-
-    /** Only the hassocks of a set are there, with wool 50 and no stitches. */
-    private static HassockSee withOnly(int set) {
-        HassockSee see = new HassockSee();
-        for (int h = 0; h < 10; h++) {
-            if ((set >> h & 1) == 0) {
-                see.gone(h);
-            }
-        }
-        return see;
     }
 
     private static void constants() {
@@ -213,9 +197,9 @@ public final class PromisesTest {
         fault("A$..B*1C", 8);
         fault("A+!+", 2);
         fault("A11", 2);
-        HassockSee full = withText("A+".repeat(29) + "A=");
+        HassockSee full = Given.text(due, "A+".repeat(29) + "A=");
         due.is("fault of a full pad", full.fault(), 60);
-        HassockSee see = withText("A=");
+        HassockSee see = Given.text(due, "A=");
         see.say(66);
         due.is("a sign mends the fault", see.fault(), NONE);
         see.say(66);
@@ -225,17 +209,17 @@ public final class PromisesTest {
     }
 
     private static void fault(String text, int place) {
-        due.is("fault of " + text, withText(text).fault(), place);
+        due.is("fault of " + text, Given.text(due, text).fault(), place);
     }
 
     private static void promise9Judge() {
-        HassockSee see = withText("A+B+C+D+.A$");
+        HassockSee see = Given.text(due, "A+B+C+D+.A$");
         due.is("judge(0), all can be", see.judge(0), NONE);
         due.is("judge(1), all can be", see.judge(1), NONE);
         due.is("judge(2), none swept", see.judge(2), 0);
         due.is("judge(3)", see.judge(3), OUTSIDE);
         due.is("judge(-1)", see.judge(-1), OUTSIDE);
-        see = withText("A9A9B9B8C5A1");
+        see = Given.text(due, "A9A9B9B8C5A1");
         due.is("two swept, then one that is not there", see.judge(0), 5);
         due.is("why", see.judge(1), 1);
         due.is("judge(2) with an act that can not be", see.judge(2), STATE);
@@ -268,8 +252,8 @@ public final class PromisesTest {
         judged(new HassockSee(), "A+A+A+A+", 3, 3);
         judged(new HassockSee(), "A&A", 0, 4);
         judged(new HassockSee(), "A1B=B", 1, 4);
-        judged(withOnly(3), "A$B$", 1, 5);
-        judged(withOnly(4), "C5C5C5C5C$", 4, 1);
+        judged(Given.only(3), "A$B$", 1, 5);
+        judged(Given.only(4), "C5C5C5C5C$", 4, 1);
         HassockSee poor = new HassockSee();
         poor.hair(4);
         judged(poor, "A+", 0, 2);
@@ -283,12 +267,12 @@ public final class PromisesTest {
         judged(justFull, "A+", NONE, NONE);
         due.is("98 and 20 is 99", justFull.behind(0, 1), 99);
         due.is("5 of hair less", justFull.see(0), 0);
-        HassockSee last = withOnly(1);
+        HassockSee last = Given.only(1);
         judged(last, "A$", 0, 5);
-        HassockSee kneltOut = withOnly(1);
+        HassockSee kneltOut = Given.only(1);
         judged(kneltOut, "A9A8.", NONE, NONE);
         due.is("the last may be swept up", kneltOut.see(1), 0);
-        HassockSee old = yearsPassed(98);
+        HassockSee old = Given.inYear(98);
         judged(old, "..", 1, 6);
         old.done();
         old.wipe();
@@ -299,16 +283,6 @@ public final class PromisesTest {
         due.is("done at year 99", old.done(), STATE);
     }
 
-    private static HassockSee yearsPassed(int n) {
-        HassockSee see = new HassockSee();
-        for (int i = 0; i < n; i++) {
-            see.say('.');
-            see.done();
-        }
-        due.is("years passed", see.told(3), n);
-        return see;
-    }
-
     private static void judged(HassockSee see, String text, int act, int why) {
         see.wipe();
         due.says(see, text);
@@ -317,7 +291,7 @@ public final class PromisesTest {
     }
 
     private static void promise10Behind() {
-        HassockSee see = withText("A*3A5B$C=D");
+        HassockSee see = Given.text(due, "A*3A5B$C=D");
         due.is("A there", see.behind(0, 0), 1);
         due.is("A wool", see.behind(0, 1), 35);
         due.is("A stitches", see.behind(0, 2), 8);
@@ -382,7 +356,7 @@ public final class PromisesTest {
     }
 
     private static void promise10Years() {
-        HassockSee see = withOnly(31);
+        HassockSee see = Given.only(31);
         see.hassock(0, 19, 0b10100101);
         see.hassock(1, 20, 255);
         see.hassock(2, 49, 255);
@@ -435,12 +409,12 @@ public final class PromisesTest {
         due.is("see(4), then too", see.see(4), OUTSIDE);
         due.is("hair in fact", see.told(2), 995);
         due.is("year in fact", see.told(3), 0);
-        HassockSee sold = withText("A$B$");
+        HassockSee sold = Given.text(due, "A$B$");
         due.is("10 more for each", sold.see(0), 40);
     }
 
     private static void promise12Swept() {
-        HassockSee see = withText("A$.C&BD9D9E9E9");
+        HassockSee see = Given.text(due, "A$.C&BD9D9E9E9");
         due.is("swept(0)", see.swept(0), 4);
         due.is("swept(1)", see.swept(1), 3);
         due.is("swept(2)", see.swept(2), OUTSIDE);
@@ -458,7 +432,7 @@ public final class PromisesTest {
     }
 
     private static void promise13Done() {
-        HassockSee see = withText("A*1B&C.D9D9E=F");
+        HassockSee see = Given.text(due, "A*1B&C.D9D9E=F");
         due.is("done", see.done(), 6);
         due.is("the pad is empty", see.told(0), 0);
         due.is("there", see.told(1), 1023 - 4 - 8);
@@ -478,7 +452,7 @@ public final class PromisesTest {
     }
 
     private static void promise14Borders() {
-        HassockSee see = withOnly(0b1000100101);
+        HassockSee see = Given.only(0b1000100101);
         due.is("no stitches", see.borders(), 0);
         see.hassock(0, 50, 0b1111);
         see.hassock(2, 50, 0b0011);
@@ -503,7 +477,7 @@ public final class PromisesTest {
     }
 
     private static void promise15Row() {
-        HassockSee see = withOnly(0b11100);
+        HassockSee see = Given.only(0b11100);
         see.hassock(2, 50, 0b1);
         see.hassock(3, 50, 0b11);
         see.hassock(4, 50, 0b0);
@@ -533,7 +507,7 @@ public final class PromisesTest {
     }
 
     private static void promise16Most() {
-        HassockSee see = withOnly(0b11111);
+        HassockSee see = Given.only(0b11111);
         see.hassock(0, 50, 0b001);
         see.hassock(1, 50, 0b010);
         see.hassock(2, 50, 0b100);
@@ -560,12 +534,12 @@ public final class PromisesTest {
         due.is("most(256, 0)", see.most(256, 0), OUTSIDE);
         due.is("most(255, 2)", see.most(255, 2), OUTSIDE);
         due.is("most(255, -1)", see.most(255, -1), OUTSIDE);
-        due.is("nobody", withOnly(0).most(255, 0), 0);
-        due.is("nobody has some", withOnly(0).most(255, 1), 0);
+        due.is("nobody", Given.only(0).most(255, 0), 0);
+        due.is("nobody has some", Given.only(0).most(255, 1), 0);
     }
 
     private static void promise17Pile() {
-        HassockSee see = withOnly(0b111);
+        HassockSee see = Given.only(0b111);
         see.hassock(0, 4, 0);
         see.hassock(1, 4, 0);
         see.hassock(2, 4, 0);
@@ -585,8 +559,8 @@ public final class PromisesTest {
         due.is("which", see.pile(1), 7);
         due.is("pile(2)", see.pile(2), OUTSIDE);
         due.is("pile(-1)", see.pile(-1), OUTSIDE);
-        due.is("nobody", withOnly(0).pile(0), 0);
-        due.is("nobody: which", withOnly(0).pile(1), 0);
+        due.is("nobody", Given.only(0).pile(0), 0);
+        due.is("nobody: which", Given.only(0).pile(1), 0);
         due.is("ten of 50", new HassockSee().pile(1), 1023);
     }
 
